@@ -15,6 +15,10 @@ final class Checks {
         due(call, want ? 1L : 0L, got ? 1L : 0L);
     }
 
+    boolean allRight() {
+        return wrong == 0;
+    }
+
     void close() {
         System.out.println(done + " answers looked at, " + wrong + " wrong");
         if (wrong != 0 || done == 0) {
