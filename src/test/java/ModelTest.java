@@ -5,7 +5,8 @@ import java.util.List;
 public final class ModelTest {
     private static final int RUNS = 4000;
     private static final int MOST_CALLS = 512;
-    private static final int[] ODD = {-1, 0, 1, 2, 3, 4, 15, 16, 47, 48, 49, 99, 100, Integer.MIN_VALUE, Integer.MAX_VALUE};
+    private static final int[] ODD = {-1, 0, 1, 2, 3, 4, 15, 16, 47, 48, 49, 99, 100,
+        Integer.MIN_VALUE, Integer.MAX_VALUE};
 
     private final Checks checks;
     private final CatalogVolume volume = new CatalogVolume();

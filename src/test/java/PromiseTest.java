@@ -395,6 +395,12 @@ public final class PromiseTest {
         v.shrink(a, 10);
         due("7 after 39", 10, v.grow(b, 10));
         due("7 the lowest of the free ones", 1, v.block(b, 0));
+        fresh();
+        v.grow(v.make(ROOT, 1, false), 1);
+        int behind = v.make(ROOT, 2, false);
+        v.grow(behind, 47);
+        v.remove(ROOT, 1);
+        due("7 block 0 is the only free one", 0, v.grow(behind, 1) == 48 ? v.block(behind, 47) : -99);
         due("7 fits", 0, v.check());
     }
 
