@@ -1,0 +1,14 @@
+import java.lang.annotation.ElementType;
+import java.lang.annotation.Retention;
+import java.lang.annotation.RetentionPolicy;
+import java.lang.annotation.Target;
+
+/** The words of the document that a boundary case holds the class to. */
+@Retention(RetentionPolicy.RUNTIME)
+@Target(ElementType.METHOD)
+@interface Says {
+    /** The number of the promise; 0 for the document's "Terms". */
+    int promise();
+
+    String words();
+}
